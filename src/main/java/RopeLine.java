@@ -191,11 +191,11 @@ public final class RopeLine {
         int last = rowsOf(here.sorts) - 1;
         if (!isWithin(bars, 0, last) || !isWithin(others, 0, last)) return OUTSIDE;
         if (!here.isTold) return STATE;
-        gains.becomesRow(here, bars);
+        gains.rowBecomes(here, bars);
         gains.reckon(here, gains.row);
         long upper = gains.upper;
         long lower = gains.lower;
-        gains.becomesRow(here, others);
+        gains.rowBecomes(here, others);
         gains.reckon(here, gains.row);
         return compareShares(upper, lower, gains.upper, gains.lower);
     }
@@ -264,7 +264,7 @@ public final class RopeLine {
         if (!here.isTold) return STATE;
         int sort = here.sortDrawn(second);
         if (sort != NONE && queue.isFull()) return FULL;
-        queue.waitsOn();
+        queue.allWait();
         int answer = 0;
         if (queue.standing > 0 && first < here.served) {
             answer = 100 * (queue.serve(queue.nextBy(orderNow, here)) + 1);
@@ -436,6 +436,9 @@ public final class RopeLine {
         return v >= least && v <= most;
     }
 
+    // What is told of a place outside of a row is 0, so that the lengths beyond the longest need no care:
+    // nobody ever stands there. Nothing is ever set there.
+
     private static int at(int[] row, int i) {
         return i >= 0 && i < row.length ? row[i] : 0;
     }
@@ -476,8 +479,8 @@ public final class RopeLine {
         return one;
     }
 
-    // Two products of such shares can be longer than a long: so whole parts are compared, and where they
-    // are the same what is left over, turned round.
+    // The products of two such shares can grow beyond a long: so whole parts are compared, and where they
+    // are the same what is left over, each turned upside down.
     private static int compareShares(long upper, long lower, long otherUpper, long otherLower) {
         long a = upper;
         long b = lower;
@@ -498,7 +501,7 @@ public final class RopeLine {
         return d > 0 ? 1 : b > 0 ? -1 : 0;
     }
 
-    /** SHEETS, all in one row; what a SHEET had before it got its row is never seen. */
+    /** SHEETS, the cells of all in one row, so that a new row needs none made. */
     private static final class Sheets {
         private final int[] lanes = new int[MOST_SHEETS];
         private final int[] sizes = new int[MOST_SHEETS];
@@ -655,7 +658,9 @@ public final class RopeLine {
         }
 
         int twelfthsTogether() {
-            return joining(bars, -1);
+            int all = 0;
+            for (int s = 0; s < sorts; s++) all += at(twelfths, s);
+            return all;
         }
 
         /** How many twelfths come whose BAR is above n. */
@@ -822,7 +827,7 @@ public final class RopeLine {
             lower = TWELVE * TWELVE * lengths.total;
         }
 
-        void becomesRow(Place place, int number) {
+        void rowBecomes(Place place, int number) {
             int left = number;
             for (int s = place.sorts - 1; s >= 0; s--) {
                 set(row, s, left % LENGTHS);
@@ -837,7 +842,7 @@ public final class RopeLine {
             long bestLower = 0;
             int rows = rowsOf(place.sorts);
             for (int number = 0; number < rows; number++) {
-                becomesRow(place, number);
+                rowBecomes(place, number);
                 reckon(place, row);
                 if (number == 0 || compareShares(upper, lower, bestUpper, bestLower) > 0) {
                     bestUpper = upper;
@@ -875,7 +880,7 @@ public final class RopeLine {
             return comers >= MOST_COMERS;
         }
 
-        void waitsOn() {
+        void allWait() {
             for (int k = 0; k < standing; k++) {
                 int c = at(row, k);
                 set(waited, c, at(waited, c) + 1);
