@@ -132,7 +132,7 @@ public final class RopeLine {
         }
     }
 
-    // ---- 2 in the long run
+    // ---- 2 in the long run (by BARS as they are)
 
     public long often(int n, int which) {
         if (!isWithin(n, 0, LONGEST) || !isWithin(which, UPPER, LOWER) || !here.isTold) return LOST;

@@ -1,7 +1,13 @@
+import java.io.IOException;
 import java.lang.reflect.Constructor;
 import java.lang.reflect.Field;
 import java.lang.reflect.Method;
 import java.lang.reflect.Modifier;
+import java.nio.file.Files;
+import java.nio.file.Path;
+import java.util.ArrayList;
+import java.util.List;
+import java.util.Map;
 import java.util.TreeSet;
 
 /** The public face: its constants, its constructor, its methods, and no other member that is not private. */
@@ -15,8 +21,8 @@ public final class FaceTest {
         "int sheet(int,int,int)", "int lose(int)", "int put(int,int,int)", "long cell(int,int,int)", "int tell(int)",
         "int call(int)", "int as(int,int)", "int trace()", "int fault()", "int many(int)"};
 
-    public static void main(String[] args) {
-        TreeSet<String> wanted = new TreeSet<>(java.util.List.of(METHODS));
+    public static void main(String[] args) throws IOException {
+        TreeSet<String> wanted = new TreeSet<>(List.of(METHODS));
         TreeSet<String> seen = new TreeSet<>();
         TreeSet<String> names = new TreeSet<>();
         for (Method m : RopeLine.class.getDeclaredMethods()) {
@@ -39,6 +45,7 @@ public final class FaceTest {
         Due.is("final class", RopeLine.class.getModifiers(), Modifier.PUBLIC | Modifier.FINAL);
         constants();
         nested();
+        asTheDocumentWritesIt();
         Due.end();
     }
 
@@ -68,8 +75,10 @@ public final class FaceTest {
         Due.is("LOST", RopeLine.LOST, Long.MIN_VALUE);
         int visible = 0;
         for (Field f : RopeLine.class.getDeclaredFields()) {
-            if (!Modifier.isPrivate(f.getModifiers())) visible++;
-            if (Modifier.isStatic(f.getModifiers())) Due.holds(f + " is final", Modifier.isFinal(f.getModifiers()));
+            if (Modifier.isPrivate(f.getModifiers())) continue;
+            visible++;
+            Due.is(f + " is a constant", f.getModifiers(), Modifier.PUBLIC | Modifier.STATIC | Modifier.FINAL);
+            Due.holds(f + " is of its type", f.getType() == (f.getName().equals("LOST") ? long.class : int.class));
         }
         Due.is("fields that are not private", visible, 6);
     }
@@ -79,10 +88,45 @@ public final class FaceTest {
             Due.holds(c + " is static", Modifier.isStatic(c.getModifiers()));
             Due.holds(c + " is not public", !Modifier.isPublic(c.getModifiers())
                 && !Modifier.isProtected(c.getModifiers()));
+        }
+        for (Class<?> c : nestAndSelf()) {
             int fields = 0;
-            for (Field f : c.getDeclaredFields()) if (!Modifier.isStatic(f.getModifiers())) fields++;
+            for (Field f : c.getDeclaredFields()) {
+                if (Modifier.isStatic(f.getModifiers())) Due.holds(f + " is final", Modifier.isFinal(f.getModifiers()));
+                else fields++;
+            }
             Due.holds(c + " has twenty fields at most", fields <= 20);
         }
-        Due.holds("twelve classes at most", RopeLine.class.getDeclaredClasses().length < 12);
+        Due.holds("twelve classes at most", nestAndSelf().length <= 12);
+    }
+
+    /** Names of what a call is told, the order of the calls, and what is said ahead of them, as in the document. */
+    private static void asTheDocumentWritesIt() throws IOException {
+        List<String> face = Document.face();
+        List<String> written = new ArrayList<>();
+        List<String> source = Files.readAllLines(Path.of("src/main/java/RopeLine.java"));
+        for (String line : source) {
+            if (line.startsWith("    public ")) written.add(line.trim().replaceAll(" \\{$|;$", ""));
+        }
+        Due.is("members of the face in the document", face.size(), METHODS.length + 3);
+        for (String member : face) Due.holds("the class has " + member, written.contains(member));
+        Due.same("the face", String.join("\n", written), String.join("\n", face));
+        Map<String, List<String>> parts = Document.parts();
+        Due.is("parts", parts.size(), 5);
+        for (Map.Entry<String, List<String>> part : parts.entrySet()) {
+            Due.same("calls of " + part.getKey(), callsBehind("    // ---- " + part.getKey(), source),
+                String.join(" ", part.getValue()));
+        }
+    }
+
+    /** The public methods from a comment to the next one that begins a part. */
+    private static String callsBehind(String comment, List<String> source) {
+        StringBuilder calls = new StringBuilder();
+        int from = source.indexOf(comment);
+        for (int i = from + 1; from >= 0 && i < source.size() && !source.get(i).startsWith("    // ----"); i++) {
+            if (!source.get(i).startsWith("    public ")) continue;
+            calls.append(calls.length() > 0 ? " " : "").append(source.get(i).replaceAll("^ *public \\w+ |\\(.*$", ""));
+        }
+        return calls.toString();
     }
 }

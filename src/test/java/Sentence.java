@@ -1,6 +1,4 @@
 import java.io.IOException;
-import java.nio.file.Files;
-import java.nio.file.Path;
 import java.util.ArrayList;
 import java.util.LinkedHashMap;
 import java.util.List;
@@ -8,11 +6,12 @@ import java.util.Map;
 
 /**
  * The sentences of ../shared/DOC.md, by the words that the tests hold. A test tells its sentence ahead of what it
- * asks; in the end all words of the sections Terms and Promise 1 to 36 are to be held, so that none is left out.
+ * asks; in the end all words of all sections are to be held, so that none is left out. (FaceTest holds the public face
+ * and what the interface says ahead of the calls.)
  */
 final class Sentence {
-    private static final Path DOCUMENT = Path.of("../shared/DOC.md");
     private static final int PROMISES = 36;
+    private static final String FACE = "The public face";
     private static final Map<String, List<String>> HELD = new LinkedHashMap<>();
     private static String open;
 
@@ -59,18 +58,20 @@ final class Sentence {
                 Due.holds(section + " says \"" + words + "\"", sections.getOrDefault(section, "").contains(words));
             }
         });
-        noneIsLeftOut("Terms", sections);
-        for (int k = 1; k <= PROMISES; k++) noneIsLeftOut("Promise " + k, sections);
+        for (int k = 1; k <= PROMISES; k++) Due.holds("there is promise " + k, sections.containsKey("Promise " + k));
+        for (String section : sections.keySet()) {
+            if (!section.equals(FACE)) noneIsLeftOut(section, sections);
+        }
     }
 
-    /** The sections by what stands ahead of the colon in their heads; white space and signs of form are left out. */
+    /** What the sections say; white space and signs of form are left out. */
     private static Map<String, String> sections() throws IOException {
         Map<String, String> sections = new LinkedHashMap<>();
-        String section = "";
-        for (String line : Files.readAllLines(DOCUMENT)) {
-            if (line.startsWith("## ")) section = line.substring(3).split(":")[0].trim();
-            else if (isTold(line)) sections.merge(section, told(line), (a, b) -> a + " " + b);
-        }
+        Document.sections().forEach((section, lines) -> {
+            for (String line : lines) {
+                if (isTold(line)) sections.merge(section, told(line), (a, b) -> a + " " + b);
+            }
+        });
         return sections;
     }
 
@@ -88,7 +89,7 @@ final class Sentence {
     }
 
     private static String leftOut(String section, Map<String, String> sections) {
-        String text = sections.getOrDefault(section, "(there is no " + section + ")");
+        String text = sections.get(section);
         StringBuilder left = new StringBuilder(text);
         for (String words : HELD.getOrDefault(section, List.of())) {
             for (int i = text.indexOf(words); i >= 0; i = text.indexOf(words, i + 1)) {

@@ -12,8 +12,10 @@ final class TermsSentences {
     private TermsSentences() {
     }
 
-    static void all() throws java.io.IOException {
+    static void all() {
+        whatItIs();
         calls512();
+        notPromised();
         unknownFirst();
         outsideBeforeState();
         outsideBeforeFull();
@@ -31,6 +33,23 @@ final class TermsSentences {
         leastTerms();
     }
 
+    private static void whatItIs() {
+        Sentence.tellsNothing("What it is", "Whether to stand in line: a place told in a text: who comes how often, what it "
+            + "is worth to them, what a minute costs, how often one is served; bars, the lengths below which each joins; how "
+            + "likely each length is in the long run, how long the line is in the mean, how many go on, how long till one "
+            + "less stands there, all as shares; the bars by which each minds himself, those that are best for all, tolls "
+            + "that make the one the other, what a board that tells minutes a little wrong does; nothing seen; and a line "
+            + "minute by minute, served first come, last come or by worth.");
+        Sentence.tellsNothing("What it is", "what later calls answer is free.");
+    }
+
+    private static void notPromised() {
+        Sentence.tellsNothing("Not promised", "How the state is held inside the object is free, as are the speed of each "
+            + "call, the text of toString and the behaviour of equals and hashCode.");
+        Sentence.tellsNothing("Not promised", "Use of one object from several threads at once is not promised to be safe.");
+        Sentence.tellsNothing("Not promised", "and nothing about an object after its 512th call.");
+    }
+
     private static void calls512() {
         Sentence.of("What it is", "An object is used for at most 512 calls after it has been made");
         RopeLine x = new RopeLine();
@@ -39,6 +58,17 @@ final class TermsSentences {
         x.place(0, 0, 0, 5);
         for (int k = 0; k < 504; k++) x.minute(11, 11);
         Due.is("the 512th call, many(4)", x.many(4), 504);
+        RopeLine dear = new RopeLine();
+        String text = "m6;c2;s4v30;s3v12;s2v9";
+        dear.sheet(0, 0, text.length());
+        for (int i = 0; i < text.length(); i++) dear.put(0, i, text.charAt(i));
+        int calls = 1 + text.length();
+        int least = 0;
+        for (; calls + 2 <= 512; calls += 2) {
+            Due.is("the TEXT again, call " + (calls + 1), dear.place(0, 0, 0, text.length()), 3);
+            if (least == 0) least = dear.mends(0);
+            else Due.is("mends(0), call " + (calls + 2), dear.mends(0), least);
+        }
     }
 
     // ---- REFUSALS
